@@ -495,10 +495,9 @@ public final class BranchSums {
     public int halves(int unit, int what) {
         int parts = now.lowerCount(unit);
         if (!now.isThere(unit) || what < 0 || what > 1 || parts > MOST_HALVED) return NONE;
-        Arrays.fill(spare, 0);
         for (int i = 0; i < parts; i++) {
             int u = now.lowerAt(unit, i);
-            if (now.isThere(u)) spare[i] = Rows.allOf(now.sums[u]);
+            spare[i] = now.isThere(u) ? Rows.allOf(now.sums[u]) : 0;
         }
         int choice = Rows.halvingOf(spare, parts);
         int set = 0;
@@ -713,7 +712,6 @@ public final class BranchSums {
         }
 
         void settle(int unit, int home) {
-            leave(unit);
             upper[unit] = home;
         }
 

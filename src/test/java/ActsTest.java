@@ -60,6 +60,13 @@ public final class ActsTest {
         due("2: add(2, 7, 5)", x.add(2, 7, 5), 5);
         due("2: stale are 0, 1, 2", x.look(1), 7);
         due("2: the sum stays", x.of(2, 7, 1), 0);
+        x = Check.rolled("0(1(2(3(4(5(6(7(8(9(10(11(12))))))))))))");
+        x.add(12, 0, 1);
+        due("2: stale are all above", x.look(1), 8191);
+        due("7: of thirteen depths", x.roll(0), 0);
+        due("7: the deepest one's is in all", x.leads(0), 8191);
+        due("7: merges again", x.count(2), 24);
+        due("7: rolled up again", x.count(4), 26);
     }
 
     private static void promise3() {
@@ -82,6 +89,7 @@ public final class ActsTest {
         due("3: came", x.count(6), 13);
         due("3: acts", x.look(5), 10);
         x = Check.rolled("0(1);1:5x3");
+        x.add(1, 5, 1);
         x.goes(1);
         due("3: comes again", x.comes(1, 0), true);
         due("3: without own", x.of(1, 5, 0), 0);
@@ -115,6 +123,18 @@ public final class ActsTest {
         x.add(1, 5, -1);
         due("4: just 9999", x.goes(1), 7);
         due("4: own", x.of(0, 5, 0), 9999);
+        x = Check.rolled("0(1 23);1:0x1,63x2;23:0x4,63x8");
+        due("4: the first category and the last", x.goes(1), 0);
+        due("4: with others", x.goes(23), 13);
+        due("4: all of them", x.of(0, 0, 0) * 100 + x.of(0, 63, 0), 510);
+        int[] ends = {0, 63};
+        for (int c : ends) {
+            x.comes(1, 0);
+            x.add(1, c, 9999);
+            due("4: above 9999 of " + c, x.goes(1), NONE);
+            x.add(1, c, -9999);
+            x.goes(1);
+        }
     }
 
     private static void promise5() {
@@ -179,6 +199,13 @@ public final class ActsTest {
         due("6: above 9999", x.give(0, 1, 0, 63), NONE);
         due("6: all stays", x.of(0, 6, 0) + x.count(3) + x.look(1), 1);
         due("6: what can be", x.give(0, 1, 6, 6), 1);
+        x = Check.rolled("0(1);0:5x1,6x1,7x1,8x1;1:5x9999,8x9999");
+        due("6: just from low to high", x.give(0, 1, 6, 7), 2);
+        due("6: split from its neighbours", x.count(1), 5);
+        due("6: above 9999 at an end", x.give(0, 1, 5, 7) + x.give(0, 1, 6, 8), 2 * NONE);
+        x = Check.rolled("0(1);0:0x3,63x4");
+        due("6: all of it", x.give(0, 1, 0, 63), 7);
+        due("6: nothing out of it", x.count(1) + x.look(7), 7);
     }
 
     private static void promise7() {
@@ -235,6 +262,17 @@ public final class ActsTest {
         due("8: all stays", x.of(0, 5, 0) * 10 + x.look(1) + x.look(5) + x.count(3), 32);
         x.add(1, 6, -1);
         due("8: just 9999", x.recode(5, 6), 9003);
+        x = Check.rolled("0(7 23);0:6x9999;7:4x1,5x1;23:4x1,3x1");
+        due("8: one each", x.recode(4, 60), 2);
+        due("8: split from its neighbours", x.count(1), 6 + 4);
+        due("8: stale", x.look(1), 1 + 128 + (1 << 23));
+        due("8: one that has none may have 9999", x.recode(5, 6), 1);
+        x.add(7, 60, 9998);
+        due("8: one behind another above 9999", x.recode(6, 60), NONE);
+        due("8: none is", x.of(0, 60, 0), 0);
+        x.add(7, 60, -1);
+        due("8: both just 9999", x.recode(6, 60), 10000);
+        due("8: all of 60", x.of(0, 60, 0) * 10 + x.of(7, 60, 0), 99990 + 9999);
     }
 
     private static void promise16() {
@@ -318,6 +356,9 @@ public final class ActsTest {
         due("47: roll(0)", x.roll(0), 13);
         due("47: not stale", x.cost(0), 0);
         due("47: none such", x.cost(4), NONE);
+        x.add(3, 5, 1);
+        x.would(3, 1, 2);
+        due("47: as it is now", x.cost(0), x.roll(0));
         due("47: -1", x.cost(-1), NONE);
         due("47: 24", x.cost(24), NONE);
     }
@@ -340,6 +381,9 @@ public final class ActsTest {
         due("48: no act", x.look(5), 2);
         x.move(3, 2);
         due("48: as it is then", x.cost(0), 10);
+        x = Check.rolled("0(5 9(23));0:5x1;9:5x2;23:6x1");
+        due("48: others behind gaps", x.would(23, 5, 2), 1);
+        due("48: a leader at the end", x.would(23, 5, 1), 6);
         x = Check.rolled("0(1 2)");
         due("48: without entries", x.would(1, 2, 1), NONE);
         due("48: no other leader", x.would(1, 2, 2), 0);
@@ -405,6 +449,15 @@ public final class ActsTest {
         x.undo();
         x.image(false);
         due("51: a later image", x.of(3, 5, 0), 15);
+        x.roll(0);
+        x.limit(3, 5, 9, 2);
+        x.image(true);
+        x.limit(3, 5, 9, NONE);
+        x.limit(0, 0, 63, NONE);
+        x.limit(2, 0, 0, 0);
+        x.image(false);
+        due("51: both limits", x.broken(NONE, 0) * 10 + x.look(10), 22);
+        due("51: the second", x.broken(1, 0) * 100 + x.broken(1, 1), 313);
     }
 
     public static void main(String[] args) {

@@ -21,6 +21,11 @@ public final class ManyTest {
         x.comes(7, 0);
         x.comes(8, 0);
         due("33: of several the least", x.twin(8), 6);
+        BranchSums y = Check.rolled("0(7 9);0:0x5;7:0x3;9:0x2");
+        due("33: of the first category", y.twin(7), 9);
+        due("33: the head", y.twin(9), 7);
+        y = Check.rolled("0(7);0:5x1;7:5x2");
+        due("33: the head alone", y.twin(7), 0);
         due("33: not itself", x.twin(6), 7);
         x.add(1, 5, -10);
         due("33: of sums as they are", x.twin(1), 4);
@@ -151,6 +156,9 @@ public final class ManyTest {
         due("44: spans", x.shared(1, 2, 2), 1 + 2 + 1 + 2 + 2 + 2 + 1);
         due("44: lesser numbers", x.shared(1, 2, 3), 7);
         due("44: of itself", x.shared(1, 1, 3) * 100 + x.shared(1, 1, 2), 1517);
+        BranchSums y = Check.rolled("0(1 2);1:0x2,63x3;2:0x5,63x1");
+        due("43: first and last", y.unlike(1, 2), 5);
+        due("44: first and last", y.shared(1, 2, 3) * 100 + y.shared(1, 2, 2), 313);
         due("44: what 4", x.shared(1, 2, 4), NONE);
         due("44: what -1", x.shared(1, 2, -1), NONE);
         due("44: none such", x.shared(3, 1, 0) + x.shared(1, 3, 0) + x.shared(-1, 24, 0), 3 * NONE);

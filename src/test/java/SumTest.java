@@ -43,6 +43,7 @@ public final class SumTest {
         due("23: -1", x.less(0, -1), NONE);
         due("23: greatest", x.less(0, MAX), NONE);
         due("23: none such", x.less(2, 0) + x.less(-1, 0) + x.less(24, 0), 3 * NONE);
+        due("23: category 0", of("0x4").less(0, 1), 4);
         due("23: category 63", of("63x4").less(0, 63) * 10 + of("63x4").less(0, 64), 4);
     }
 
@@ -89,6 +90,7 @@ public final class SumTest {
         due("26: heavy(0, -1)", x.heavy(0, -1), 0);
         due("26: none such", x.heavy(2, 0), 0);
         due("26: -1", x.heavy(-1, 0) + x.heavy(24, 0), 0);
+        due("26: bit 0", of("0x1").heavy(0, 99), 1);
         due("26: bit 63", of("63x1").heavy(0, 99), Long.MIN_VALUE);
         due("26: not more than all", of("63x1").heavy(0, 100), 0);
         due("26: without entries", x.heavy(1, 0), 0);
@@ -130,6 +132,7 @@ public final class SumTest {
         due("28: none such", x.seats(2, 5, 3) + x.seats(-1, 5, 3) + x.seats(24, 5, 3), 3 * NONE);
         x = of("1x6,2x3");
         due("28: a tie goes to the least", x.seats(0, 2, 1) * 10 + x.seats(0, 2, 2), 20);
+        due("28: the first category and the last", of("0x2,63x1").seats(0, 3, 0) * 10 + of("0x2,63x1").seats(0, 3, 63), 21);
         due("28: exact fractions", of("1x9999,2x3333").seats(0, 3, 1), 3);
     }
 
@@ -147,6 +150,7 @@ public final class SumTest {
         percents("0x1,1x5", 0, 17, 1, 83);
         percents("0x5,1x1", 0, 83, 1, 17);
         percents("63x9999", 62, 0, 63, 100);
+        percents("5x1", 5, 100, 6, 0);
         BranchSums x = sample();
         due("29: without entries", x.percent(1, 0), 0);
         due("29: category 64", x.percent(0, 64), NONE);
@@ -171,6 +175,8 @@ public final class SumTest {
         due("30: none such", x.quantile(2, 50) + x.quantile(-1, 50) + x.quantile(24, 50), 3 * NONE);
         due("31: without entries", x.few(1, 50), NONE);
         due("31: none such", x.few(2, 50) + x.few(-1, 50) + x.few(24, 50), 3 * NONE);
+        due("30: of one", of("0x1").quantile(0, 1) * 10 + of("5x1").quantile(0, 100), 5);
+        due("31: of one", of("0x1").few(0, 1) * 10 + of("5x1").few(0, 100), 11);
         due("30: nothing of many", of("0x1,63x9999").quantile(0, 1), 63);
     }
 
@@ -192,6 +198,10 @@ public final class SumTest {
         due("32: run greatest", x.run(0, MAX, 0), NONE);
         due("32: what 3", x.run(0, 0, 3), NONE);
         due("32: what -1", x.run(0, -2, -1), NONE);
+        due("32: the first category", of("0x9,1x1,5x1").run(0, -2, 0) * 10 + of("0x9,5x1").run(0, -3, 1), 0);
+        due("32: of one", of("7x1").run(0, -2, 0) * 10 + of("7x1").run(0, -3, 0), 77);
+        due("32: just longer", of("7x1,9x1,10x1,12x5").run(0, -2, 0), 9);
+        due("32: of several the first", of("7x1,9x1").run(0, -2, 0) + of("7x1,9x1").run(0, -3, 0), 14);
         due("32: without entries", x.run(1, NONE, 0), 0);
         due("32: none of them", x.run(1, 0, 0) + x.run(1, -2, 0) + x.run(1, -3, 0), 3 * NONE);
         due("32: none such", x.run(2, 0, 0) + x.run(-1, NONE, 0) + x.run(24, -2, 0), 3 * NONE);
@@ -232,6 +242,21 @@ public final class SumTest {
         Check.report(y, 0, "0: 0x49995 3x100 1x10 2x10 4x1 +11");
     }
 
+    private static void allCategories() {
+        StringBuilder s = new StringBuilder("0x1");
+        for (int c = 1; c < 64; c++) s.append(",").append(c).append("x1");
+        BranchSums x = of(s.toString());
+        due("24: the last leader", x.leader(0, 63, 0), 63);
+        due("24: none behind it", x.leader(0, 64, 0), NONE);
+        due("26: all", x.heavy(0, 1), -1L);
+        due("31: all", x.few(0, 100), 64);
+        due("32: one run", x.run(0, NONE, 0) * 100 + x.run(0, 0, 1), 163);
+        due("32: the longest", x.run(0, -2, 2), 64);
+        due("17: nodes", x.unit(0, 9), 127);
+        Check.report(x, 0, "0: 0x1 1x1 2x1 3x1 4x1 +59");
+        percents(s.toString(), 0, 2, 35, 2, 36, 1, 63, 1);
+    }
+
     private static void promise42() {
         BranchSums x = sample();
         int[] firsts = {3, 20, 20, 5, 4, 20};
@@ -269,6 +294,7 @@ public final class SumTest {
         promises30and31();
         promise32();
         promises34and35();
+        allCategories();
         promise42();
         Check.close("SumTest");
     }

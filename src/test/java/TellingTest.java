@@ -113,8 +113,16 @@ public final class TellingTest {
         due("13: the first alone", x.text(), 1);
         x.feed(0x30282020, 0x20202020, 0x20202020, 0x20202020, 0x20202020);
         x.end(3);
+        due("13: bytes of it", x.look(6), 3);
         due("13: then others", x.feed(0x31293b30, 0x3a357833, 0x20202020, 0x20202020, 0x20202020), 23);
         due("13: a text", x.text(), 2);
+        Check.tape(x, "01");
+        x.end(1);
+        due("13: no digit behind it", x.text(), 1);
+        Check.tape(x, "0(    ");
+        x.end(2);
+        due("13: no blank behind it", x.text(), NONE);
+        due("13: its length", x.fault(1), 2);
     }
 
     private static void text(String text, int units) {
@@ -265,6 +273,10 @@ public final class TellingTest {
         due("14: an entry far behind", x.of(0, 45, 0), 1045);
         Check.read(x, " ".repeat(400));
         due("15: the text's length", x.fault(1), 400);
+        due("14: 400 digits", Check.read(x, "0".repeat(400)), 1);
+        due("15: 400 digits", Check.read(x, "0;" + "1".repeat(398)) + x.fault(0) * 10 + x.fault(1), 21);
+        due("14: 398 entries", Check.read(x, "0;0:1x1" + ";0:2x1".repeat(65)), NONE);
+        due("15: told already", x.fault(0) * 100 + x.fault(1), 316);
     }
 
     public static void main(String[] args) {

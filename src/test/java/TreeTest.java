@@ -125,6 +125,9 @@ public final class TreeTest {
         due("49: not into its branch", x.home(2), 1);
         Check.read(x, "0(1(3)2);0:5x4;1:5x6;3:5x4;2:5x5");
         due("49: without what is of its branch", x.home(1), 0);
+        Check.read(x, "0(7(9)23);0:0x5;7:0x2;9:0x4;23:0x1");
+        due("49: of the first category", x.home(9), 7);
+        due("49: behind gaps", x.home(23), 9);
     }
 
     private static void promise49Depth() {
