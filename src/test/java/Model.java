@@ -31,6 +31,7 @@ final class Model {
     }
 
     static final class Fault extends RuntimeException {
+        private static final long serialVersionUID = 1L;
         final int kind;
         final int place;
 

@@ -31,6 +31,7 @@ public final class SumTest {
         due("22: rank greatest", x.ranked(0, MAX), NONE);
         due("22: without entries", x.ranked(1, 0), NONE);
         due("22: none such", x.ranked(2, 0) + x.ranked(-1, 0) + x.ranked(24, 0), 3 * NONE);
+        due("22: category 0", of("0x1,5x1").ranked(0, 0) * 10 + of("0x1,5x1").ranked(0, 1), 5);
         due("22: category 63", of("63x1").ranked(0, 0), 63);
     }
 

@@ -125,6 +125,8 @@ public final class TreeTest {
         due("49: not into its branch", x.home(2), 1);
         Check.read(x, "0(1(3)2);0:5x4;1:5x6;3:5x4;2:5x5");
         due("49: without what is of its branch", x.home(1), 0);
+        Check.read(x, "0(1 2);0:0x4;1:0x6;2:0x4");
+        due("49: of the first category without it", x.home(1), 0);
         Check.read(x, "0(7(9)23);0:0x5;7:0x2;9:0x4;23:0x1");
         due("49: of the first category", x.home(9), 7);
         due("49: behind gaps", x.home(23), 9);
@@ -159,6 +161,8 @@ public final class TreeTest {
         due("52: look(-1)", x.look(-1), NONE);
         due("52: look(least)", x.look(MIN), NONE);
         due("52: look(greatest)", x.look(MAX), NONE);
+        BranchSums y = Check.rolled("0;0:0x3,63x4");
+        due("52: of the head alone", y.look(7) * 10000 + y.look(8) * 100 + y.look(9), 71362);
         x.image(true);
         due("52: as in the image", x.look(12), 0);
         x.limit(2, 5, 5, 1);
