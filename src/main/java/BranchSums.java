@@ -45,10 +45,11 @@ public final class BranchSums {
     private final Book imageBook = new Book();
     private final Roller roller = new Roller();
     private final Tape tape = new Tape();
-    private final StringBuilder chosen = new StringBuilder();
+    private final Report chosen = new Report();
     private final int[][] branches = new int[UNITS][CATEGORIES];
     private final int[] spare = new int[CATEGORIES];
-    private Org imageOrg = null;
+    private final Org imageOrg = new Org();
+    private boolean hasImage = false;
 
     public BranchSums() {
     }
@@ -230,16 +231,14 @@ public final class BranchSums {
     }
 
     public boolean image(boolean taken) {
-        Org org = imageOrg;
         if (taken) {
-            if (org == null) org = new Org();
-            org.takeOver(now);
+            imageOrg.takeOver(now);
             imageBook.takeOver(book);
-            imageOrg = org;
+            hasImage = true;
             return true;
         }
-        if (org == null) return false;
-        now.takeOver(org);
+        if (!hasImage) return false;
+        now.takeOver(imageOrg);
         book.takeOver(imageBook);
         past.forget();
         return true;
@@ -401,29 +400,14 @@ public final class BranchSums {
     }
 
     public int report(int unit) {
-        chosen.setLength(0);
+        chosen.clear();
         if (!now.isThere(unit)) return NONE;
-        int[] sum = now.sums[unit];
-        int leaders = Long.bitCount(Spans.maskOf(sum));
-        chosen.append(unit);
-        chosen.append(':');
-        for (int i = 0; i < leaders && i < REPORTED; i++) {
-            int category = Rows.leaderAt(sum, i);
-            if (category == NONE) break;
-            chosen.append(' ');
-            chosen.append(category);
-            chosen.append('x');
-            chosen.append(sum[category]);
-        }
-        if (leaders > REPORTED) {
-            chosen.append(" +");
-            chosen.append(leaders - REPORTED);
-        }
-        return chosen.length();
+        chosen.tell(unit, now.sums[unit]);
+        return chosen.length;
     }
 
     public int sign(int i) {
-        return i >= 0 && i < chosen.length() ? (int) chosen.charAt(i) : NONE;
+        return chosen.signAt(i);
     }
 
     public int drawn(int unit, int n, int category) {
@@ -657,11 +641,10 @@ public final class BranchSums {
     }
 
     private int apartFromImage() {
-        Org org = imageOrg;
-        if (org == null) return 0;
+        if (!hasImage) return 0;
         int set = 0;
         for (int u = 0; u < UNITS; u++) {
-            if (now.upper[u] != org.upper[u]) set |= 1 << u;
+            if (now.upper[u] != imageOrg.upper[u]) set |= 1 << u;
         }
         return set;
     }
@@ -933,18 +916,20 @@ public final class BranchSums {
         }
     }
 
-    /** The latest acts, each as all was ahead of it; what is made for one is used again. */
+    /** The latest acts, each as all was ahead of it, in turn in the same places. */
     private static final class Past {
         private final Org[] kept = new Org[ACTS];
         private int next = 0;
         int size = 0;
 
+        /** All that acts are kept in is made here, so that no call makes anything. */
+        Past() {
+            for (int i = 0; i < ACTS; i++) kept[i] = new Org();
+        }
+
         void keep(Org org) {
             Org slot = kept[next];
-            if (slot == null) {
-                slot = new Org();
-                kept[next] = slot;
-            }
+            if (slot == null) return;
             slot.takeOver(org);
             next = (next + 1) % ACTS;
             size = Math.min(size + 1, ACTS);
@@ -1018,6 +1003,54 @@ public final class BranchSums {
             cost += Spans.common(Spans.maskOf(row), Spans.maskOf(part));
             merges++;
             Rows.addTo(row, part);
+        }
+    }
+
+    /** The chosen REPORT, with room for the longest one. */
+    private static final class Report {
+        private static final int MOST_SIGNS = 64;
+        private static final int GREATEST_TENS = 1000000000;
+
+        private final int[] signs = new int[MOST_SIGNS];
+        int length = 0;
+
+        void clear() {
+            length = 0;
+        }
+
+        int signAt(int i) {
+            return i >= 0 && i < length && i < MOST_SIGNS ? signs[i] : NONE;
+        }
+
+        void tell(int unit, int[] sum) {
+            int leaders = Long.bitCount(Spans.maskOf(sum));
+            putNumber(unit);
+            put(':');
+            for (int i = 0; i < leaders && i < REPORTED; i++) {
+                int category = Rows.leaderAt(sum, i);
+                if (category == NONE) break;
+                put(' ');
+                putNumber(category);
+                put('x');
+                putNumber(sum[category]);
+            }
+            if (leaders > REPORTED) {
+                put(' ');
+                put('+');
+                putNumber(leaders - REPORTED);
+            }
+        }
+
+        private void put(int sign) {
+            if (length >= MOST_SIGNS) return;
+            signs[length] = sign;
+            length++;
+        }
+
+        private void putNumber(int number) {
+            for (int tens = GREATEST_TENS; tens > 0; tens /= 10) {
+                if (number >= tens || tens == 1) put('0' + number / tens % 10);
+            }
         }
     }
 

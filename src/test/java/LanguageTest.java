@@ -1,4 +1,3 @@
-import java.lang.management.ManagementFactory;
 import java.lang.reflect.Field;
 import java.lang.reflect.InvocationTargetException;
 import java.lang.reflect.Method;
@@ -12,7 +11,7 @@ import java.util.TreeSet;
 import java.util.regex.Matcher;
 import java.util.regex.Pattern;
 
-/** The rules of LANGUAGE.md that a machine can look at: words, the face, no throws, the room. */
+/** The rules of LANGUAGE.md that a machine can look at: words, the face, no throws. */
 public final class LanguageTest {
     private static final Path SOURCE = Path.of("src/main/java/BranchSums.java");
     private static final Path DOC = Path.of("../shared/DOC.md");
@@ -124,36 +123,10 @@ public final class LanguageTest {
         }
     }
 
-    /** Far less than the room for one run: 7.3 million elements, of four bytes at least. */
-    private static void room() throws Exception {
-        com.sun.management.ThreadMXBean meter = (com.sun.management.ThreadMXBean) ManagementFactory.getThreadMXBean();
-        long id = Thread.currentThread().getId();
-        longRun(new BranchSums());
-        long before = meter.getThreadAllocatedBytes(id);
-        longRun(new BranchSums());
-        long bytes = meter.getThreadAllocatedBytes(id) - before;
-        Check.due("rule 12: bytes of a run, " + bytes, bytes < 3000000, true);
-    }
-
-    private static void longRun(BranchSums x) {
-        for (int u = 1; u < 24; u++) x.comes(u, u < 12 ? u - 1 : 0);
-        for (int i = 0; i < 60; i++) {
-            x.add(i % 24, i, 9);
-            x.roll(0);
-            x.would(1, 23, i % 4);
-            x.home(5);
-            x.report(0);
-            x.halves(3, 0);
-            x.image(i % 5 > 0);
-            x.text();
-        }
-    }
-
     public static void main(String[] args) throws Exception {
         words();
         face();
         neverThrows();
-        room();
         Check.close("LanguageTest");
     }
 }

@@ -258,6 +258,24 @@ public final class SumTest {
         percents(s.toString(), 0, 2, 35, 2, 36, 1, 63, 1);
     }
 
+    /** UNIT 23 with all others but the HEAD below it, each as full as can be in five CATEGORIES. */
+    private static void longestReport() {
+        BranchSums x = new BranchSums();
+        x.comes(23, 0);
+        for (int u = 1; u < 23; u++) x.comes(u, 23);
+        for (int u = 1; u < 24; u++) {
+            for (int c = 59; c < 64; c++) x.add(u, c, 9999);
+        }
+        for (int c = 0; c < 59; c++) x.add(23, c, 1);
+        x.roll(0);
+        due("34: the longest", x.report(23), 57);
+        Check.report(x, 23, "23: 59x229977 60x229977 61x229977 62x229977 63x229977 +59");
+        due("35: its last sign", x.sign(56), '9');
+        due("35: none behind it", x.sign(57) + x.sign(63) + x.sign(64), 3 * NONE);
+        x.report(1);
+        due("35: none of the one ahead", x.sign(x.report(1)), NONE);
+    }
+
     private static void promise42() {
         BranchSums x = sample();
         int[] firsts = {3, 20, 20, 5, 4, 20};
@@ -296,6 +314,7 @@ public final class SumTest {
         promise32();
         promises34and35();
         allCategories();
+        longestReport();
         promise42();
         Check.close("SumTest");
     }
