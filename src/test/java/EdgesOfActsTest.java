@@ -111,15 +111,17 @@ public final class EdgesOfActsTest {
     }
 
     private static void eachBelowEachOther() {
-        BranchSums scene = Sight.SCENE.make();
         for (int u = -1; u <= 24; u++) {
             for (int to = -1; to <= 24; to++) {
                 BranchSums x = Sight.SCENE.make();
-                boolean can = canMove(scene, u, to);
+                boolean can = canMove(x, u, to);
+                int size = x.unit(u, 3);
+                int moved = x.count(5);
+                int above = x.unit(u, 0);
                 String call = "5: " + u + " below " + to;
-                due(call, x.move(u, to), can ? scene.unit(u, 3) : NONE);
-                due(call + ", moved", x.count(5) - scene.count(5), can ? 1 : 0);
-                due(call + ", above it", x.unit(u, 0), can ? to : scene.unit(u, 0));
+                due(call, x.move(u, to), can ? size : NONE);
+                due(call + ", moved", x.count(5) - moved, can ? 1 : 0);
+                due(call + ", above it", x.unit(u, 0), can ? to : above);
             }
         }
         BranchSums x = new BranchSums();

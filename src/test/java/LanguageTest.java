@@ -101,11 +101,11 @@ public final class LanguageTest {
     /** Any arguments in any state: no call throws. */
     private static void neverThrows() throws Exception {
         List<Method> methods = methods();
-        for (int run = 0; run < 300; run++) {
+        for (int run = 0; run < 900; run++) {
             BranchSums x = new BranchSums();
             if (run % 3 == 1) Check.read(x, "0(1(2(3)4)5(6 7(8))23);0:5x9,63x9999;1:0x1,5x8;3:7x5;6:9x9,10x3,5x1;23:33x1");
             if (run % 3 == 2) Check.read(x, "0(1(2(3(4(5(6(7(8(9(10(11(12))))))))))));12:5x1;3:5x2,63x9998");
-            for (int i = 0; i < 1500; i++) wildCall(x, methods.get(pick(methods.size())));
+            for (int i = 0; i < 490; i++) wildCall(x, methods.get(pick(methods.size())));
             Check.due("rule 7: the head stays", x.look(0) & 1, 1);
         }
     }

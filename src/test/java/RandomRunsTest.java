@@ -7,6 +7,10 @@ public final class RandomRunsTest {
     private static BranchSums x;
     private static Model m;
     private static String call;
+    private static int calls;
+
+    /** A text fed, an act and all that is asked behind it. */
+    private static final int MOST_AT_ONCE = 72;
 
     private static int pick(int n) {
         seed = seed * 6364136223846793005L + 1442695040888963407L;
@@ -43,6 +47,7 @@ public final class RandomRunsTest {
     }
 
     private static void due(long got, long want, int run, int at) {
+        calls++;
         if (got == want) return;
         System.out.println("run " + run + ", call " + at + ", " + call + " answered " + got + ", due is " + want);
         System.exit(1);
@@ -266,20 +271,21 @@ public final class RandomRunsTest {
     }
 
     public static void main(String[] args) {
-        int runs = args.length > 0 ? Integer.parseInt(args[0]) : 400;
+        int runs = args.length > 0 ? Integer.parseInt(args[0]) : 1000;
         seed = args.length > 1 ? Long.parseLong(args[1]) : 20261118L;
         for (int run = 1; run <= runs; run++) {
             x = new BranchSums();
             m = new Model();
             int calm = pick(3);
-            for (int at = 1; at <= 200; at++) {
+            calls = 0;
+            for (int at = 1; calls <= 512 - MOST_AT_ONCE; at++) {
                 int kind = pick(100);
                 // Some runs have no texts or images, so that what they build lasts.
                 if (calm > 0 && (kind == 90 || kind == 91 || kind == 99)) kind = pick(86);
                 act(run, at, kind);
                 if (often(20)) tell(run, at);
-                if (often(25)) askTree(run, at);
-                if (often(20)) askSum(run, at);
+                if (often(15)) askTree(run, at);
+                if (often(12)) askSum(run, at);
                 if (often(8)) askMany(run, at);
             }
         }
