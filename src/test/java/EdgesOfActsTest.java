@@ -82,6 +82,9 @@ public final class EdgesOfActsTest {
             due("4: 9998 then", heir(c, 9000, 998).goes(1) != NONE, true);
             due("4: 9999 then", heir(c, 9000, 999).goes(1) != NONE, true);
             due("4: all of 9999", heir(c, 0, 9999).goes(1), 0);
+            BranchSums y = heir(c, 9000, 999);
+            y.goes(1);
+            due("4: all of it is the heir's", y.of(0, c, 0) * 10 + y.of(0, 33, 0), 99992);
             due("4: none to 9999", heir(c, 9999, 0).goes(1) != NONE, true);
             Sight.stays("4: 10000 then of " + c, () -> heir(c, 9000, 1000), NONE, x -> x.goes(1));
             Sight.stays("4: one to 9999 of " + c, () -> heir(c, 9999, 1), NONE, x -> x.goes(1));

@@ -177,6 +177,23 @@ public final class EdgesOfManyTest {
         due("39: all of it apart", Check.rolled("0(1);1:5x9").halves(0, 1), 9);
     }
 
+    /** What was asked of other SUMS ahead of it tells nothing. */
+    private static void halvesBehindOthers() {
+        for (int count = 1; count <= 12; count++) {
+            String text = many(count, 5, 3);
+            BranchSums x = Check.rolled(text);
+            BranchSums y = Check.rolled(text + ";0:20x90,21x90,0x70,1x70,2x70,3x70,4x70,5x70,6x70,7x70,8x70,9x70,10x70,11x70,12x70");
+            for (int w = 0; w < 2; w++) {
+                y.drawn(0, 1, 20);
+                due("39: behind drawn, " + count, y.halves(0, w), x.halves(0, w));
+                y.seats(0, 200, 20);
+                due("39: behind seats, " + count, y.halves(0, w), x.halves(0, w));
+                y.home(23);
+                due("39: behind home, " + count, y.halves(0, w), x.halves(0, w));
+            }
+        }
+    }
+
     private static BranchSums wide(int count) {
         BranchSums x = new BranchSums();
         for (int u = 23; u > 23 - count; u--) x.comes(u, 0);
@@ -282,6 +299,7 @@ public final class EdgesOfManyTest {
         grewByEach();
         growthOfEachKind();
         halvesOfEach();
+        halvesBehindOthers();
         twelveAtMost();
         twoSums();
         leadsOfEach();

@@ -84,6 +84,23 @@ public final class EdgesOfTellingTest {
         due("broken by all", x.broken(0, 1), 17);
     }
 
+    /** One of several is none any more: all others are as they were, in their order. */
+    private static void oneOfSeveral() {
+        for (int gone = 0; gone < 12; gone++) {
+            BranchSums x = Check.rolled("0;0:0x1000,5x2000");
+            for (int i = 0; i < 12; i++) x.limit(0, 0, 63 - i, 100 * i);
+            due("none any more, " + gone, x.limit(0, 0, 63 - gone, NONE), 11);
+            for (int i = 0; i < 11; i++) due("by how much " + i + " without " + gone, x.broken(i, 1), 3000 - 100 * (i < gone ? i : i + 1));
+            due("none behind them", x.broken(11, 1), NONE);
+            for (int i = 0; i < 12; i++) {
+                if (i != gone) due("the later n of " + i, x.limit(0, 0, 63 - i, 2999), 11);
+            }
+            for (int i = 0; i < 11; i++) due("by how much then", x.broken(i, 1), 1);
+            due("it again, the last one", x.limit(0, 0, 63 - gone, 7), 12);
+            due("by how much", x.broken(11, 1), 2993);
+        }
+    }
+
     // ---- 10: "BROKEN: the UNIT is there, its SUM has more in that span"
 
     private static void justMoreThanThat() {
@@ -231,6 +248,7 @@ public final class EdgesOfTellingTest {
         spansOfLimits();
         twelveLimits();
         theLaterN();
+        oneOfSeveral();
         justMoreThanThat();
         theUnitIsThere();
         theIthOfThem();

@@ -276,6 +276,18 @@ public final class EdgesOfTermsTest {
         due("without versions", x.versions(2), 0);
         due("those above are as they were", x.look(1), 0);
         due("nor is it rolled up", x.roll(2), NONE);
+        x.add(2, 5, 1);
+        x.goes(2);
+        x.roll(0);
+        x.comes(2, 0);
+        due("not stale, though it went so", x.look(1), 0);
+        x.add(2, 5, 1);
+        x.roll(0);
+        x.goes(2);
+        x.comes(2, 1);
+        due("without sum, though it went with one", x.unit(2, 8), 0);
+        due("without versions, though it went with one", x.versions(2), 0);
+        due("nor was any", x.was(2, 0, 5), NONE);
     }
 
     // ---- "TO ROLL a UNIT up: if it is not STALE nothing ... (PARTS without NODES, too)"
@@ -357,6 +369,45 @@ public final class EdgesOfTermsTest {
         due("(d) one that was stale is still", x.look(1), 7);
     }
 
+    /** "and all above": from DEPTH 12 up to the HEAD, thirteen UNITS. */
+    private static BranchSums rolledStair() {
+        BranchSums x = stair(12);
+        x.comes(13, 11);
+        x.add(12, 5, 1);
+        x.add(13, 6, 1);
+        due("rolled up through thirteen depths", x.roll(0), 5);
+        due("each but the thirteenth below the eleventh", x.count(4), 14);
+        for (int u = 0; u <= 12; u++) due("the sum of " + u, x.of(u, 5, 1), 1);
+        return x;
+    }
+
+    private static void staleFromTheDeepest() {
+        int above = (1 << 12) - 1;
+        BranchSums x = rolledStair();
+        due("nobody", x.look(1), 0);
+        x.add(12, 7, 1);
+        due("(a) it and all above", x.look(1), above + (1 << 12));
+        x = rolledStair();
+        x.goes(12);
+        due("(c) all above", x.look(1), above);
+        x = rolledStair();
+        x.move(12, 0);
+        due("(d) all that it was below", x.look(1), above);
+        x = rolledStair();
+        x.comes(14, 0);
+        x.move(14, 11);
+        due("(d) all that it is below", x.look(1), above);
+        x = rolledStair();
+        x.give(12, 13, 0, 63);
+        due("(e) both and all above", x.look(1), above + (1 << 12) + (1 << 13));
+        x = rolledStair();
+        x.recode(6, 7);
+        due("(h) the one that had it and all above", x.look(1), above + (1 << 13));
+        due("in thought, too", x.cost(0), 5);
+        due("rolled up again", x.roll(0), 5);
+        due("just those", x.count(4), 27);
+    }
+
     // ---- part 4: "UNDONE: the latest of ACTS (a) to (h) that were done (10 are kept)"
 
     private static void tenActsAreKept() {
@@ -418,6 +469,7 @@ public final class EdgesOfTermsTest {
         rolledUp();
         versionsAre8();
         staleBecomes();
+        staleFromTheDeepest();
         tenActsAreKept();
         keptBehindUndone();
         all512Calls();
