@@ -194,6 +194,19 @@ public final class EdgesOfManyTest {
         }
     }
 
+    /** Two right below, 5 and 1 of them: none but these are parts, whatever number another SUM had. */
+    private static void halvesOfJustThese() {
+        for (int n = 1; n <= 20; n++) {
+            BranchSums x = Check.rolled("0(22 23);22:60x5;23:61x1;0:2x" + n + ",3x" + n);
+            for (int drawn = 1; drawn <= 8; drawn++) {
+                x.drawn(0, drawn, 2);
+                due("39: the set behind " + drawn + " drawn of " + n, x.halves(0, 0), 1 << 22);
+                x.drawn(0, drawn, 2);
+                due("39: how far apart", x.halves(0, 1), 4);
+            }
+        }
+    }
+
     private static BranchSums wide(int count) {
         BranchSums x = new BranchSums();
         for (int u = 23; u > 23 - count; u--) x.comes(u, 0);
@@ -300,6 +313,7 @@ public final class EdgesOfManyTest {
         growthOfEachKind();
         halvesOfEach();
         halvesBehindOthers();
+        halvesOfJustThese();
         twelveAtMost();
         twoSums();
         leadsOfEach();
