@@ -380,6 +380,85 @@ public final class EdgesOfActsTest {
         Sight.stays("50 and 52", Sight.SCENE, 0, new int[] {0, 1, 2, 3, 4, 5, 6, 7, 8, 9, 10, 11, 12}, (x, v) -> 0 * (x.count(v) + x.look(v)));
     }
 
+    // ---- 16, 51: "all is as it was", as much as there may be
+
+    /** All 24 UNITS, two stairs of them to the DEPTHS 12 and 11, eight VERSIONS of each, twelve LIMITS, all BROKEN. */
+    private static BranchSums fullest() {
+        BranchSums x = new BranchSums();
+        StringBuilder text = new StringBuilder("0");
+        for (int u = 1; u <= 12; u++) text.append("(").append(u);
+        text.append(")".repeat(11)).append(" 13");
+        for (int u = 14; u <= 23; u++) text.append("(").append(u);
+        text.append(")".repeat(11));
+        for (int u = 0; u <= 23; u++) text.append(";").append(u).append(u % 2 == 0 ? ":63x" : ":0x").append(u + 1);
+        due("the text " + text, Check.read(x, text.toString()), 24);
+        for (int i = 0; i < 12; i++) x.limit(i, i + 1, 63, i);
+        x.state(-9);
+        for (int i = 1; i <= 9; i++) {
+            x.add(12, 0, i);
+            x.add(23, 63, i);
+            x.roll(0);
+        }
+        due("limits, all broken", x.look(10) * 100 + x.broken(NONE, 0), 1212);
+        due("versions", x.versions(0) + x.versions(12) + x.versions(23), 24);
+        return x;
+    }
+
+    private static BranchSums goneBackFullest() {
+        BranchSums x = fullest();
+        x.image(true);
+        x.image(false);
+        return x;
+    }
+
+    private static BranchSums othersAndBack() {
+        BranchSums x = fullest();
+        x.image(true);
+        x.recode(63, 1);
+        x.goes(12);
+        Check.read(x, "0(23(22))");
+        x.add(23, 63, 9);
+        for (int i = 0; i < 3; i++) {
+            x.add(22, 0, 1);
+            x.roll(0);
+        }
+        for (int i = 0; i < 12; i++) x.limit(i, i + 1, 63, NONE);
+        for (int i = 0; i < 12; i++) x.limit(23, 5 + i, 62 - i, 99);
+        x.state(9);
+        x.undo();
+        x.image(false);
+        Check.read(x, "0(");
+        return x;
+    }
+
+    private static BranchSums eightOfFullest() {
+        BranchSums x = fullest();
+        x.undo();
+        x.undo();
+        return x;
+    }
+
+    private static void asMuchAsThereMayBe() {
+        Sight.same("51: the fullest", EdgesOfActsTest::othersAndBack, () -> {
+            BranchSums x = goneBackFullest();
+            Check.read(x, "0(");
+            return x;
+        });
+        Sight.Call[] acts = {
+            x -> Check.read(x, "0"), x -> x.roll(0), x -> x.recode(63, 1), x -> x.goes(12), x -> x.add(23, 63, 3),
+            x -> x.move(23, 0), x -> x.give(12, 23, 0, 63), x -> x.roll(12)
+        };
+        for (int i = 0; i < acts.length; i++) {
+            Sight.Call act = acts[i];
+            Sight.sameOrg("16: act " + i + " of the fullest", () -> {
+                BranchSums x = eightOfFullest();
+                due("16: done", act.on(x) != NONE, true);
+                due("16: undone", x.undo(), 8);
+                return x;
+            }, EdgesOfActsTest::eightOfFullest);
+        }
+    }
+
     // ---- 50: "count(what)": 0 .. 10, each at the acts that it counts and at none else
 
     private static void counts(String when, BranchSums x, int... want) {
@@ -505,6 +584,7 @@ public final class EdgesOfActsTest {
         eachCount();
         theImage();
         whatTheImageLeaves();
+        asMuchAsThereMayBe();
         Check.close("EdgesOfActsTest");
     }
 }

@@ -1,3 +1,6 @@
+import java.util.ArrayList;
+import java.util.List;
+
 /** Promises 33, 36 to 39 and 43 to 46 at the bounds that they name: VERSIONS, and several SUMS. */
 public final class EdgesOfManyTest {
     private static final int NONE = BranchSums.NONE;
@@ -48,6 +51,28 @@ public final class EdgesOfManyTest {
             x.roll(0);
         }
         return x;
+    }
+
+    /** Each UNIT has VERSIONS of its own: UNIT u has one entry of CATEGORY u, then u + 2 of 63 - u more. */
+    private static void versionsOfAll() {
+        BranchSums x = new BranchSums();
+        for (int u = 1; u < 24; u++) x.comes(u, 0);
+        for (int u = 1; u < 24; u++) {
+            x.add(u, u, 1);
+            x.roll(u);
+            x.add(u, u, -1);
+            x.add(u, 63 - u, u + 2);
+            x.roll(u);
+        }
+        due("36: of the head", x.versions(0), 0);
+        for (int u = 1; u < 24; u++) {
+            String call = " of " + u;
+            due("36: versions" + call, x.versions(u), 2);
+            due("37: the latest" + call, x.was(u, 0, 63 - u) * 10 + x.was(u, 0, u), 10 * u + 20);
+            due("37: the one ahead" + call, x.was(u, 1, 63 - u) * 10 + x.was(u, 1, u), 1);
+            int[] want = {63 - u, u + 2, u, 1, 2};
+            for (int w = 0; w < 5; w++) due("38: grew" + call + ", what " + w, x.grew(u, 1, w), want[w]);
+        }
     }
 
     private static int triangle(int n) {
@@ -306,7 +331,44 @@ public final class EdgesOfManyTest {
         due("46: -1, 64", x.where(-1, 1) + x.where(64, 1), 2 * NONE);
     }
 
+    // ---- "SUMS are as they were rolled up the latest time": not OWN, not BRANCH SUMS
+
+    private static List<Long> ofSeveral(BranchSums x, int[] units) {
+        List<Long> seen = new ArrayList<>();
+        for (int u : units) {
+            seen.add((long) x.twin(u));
+            for (int w = 0; w < 2; w++) seen.add((long) x.halves(u, w));
+            for (int v : units) {
+                seen.add((long) x.unlike(u, v));
+                for (int w = 0; w < 4; w++) seen.add((long) x.shared(u, v, w));
+            }
+        }
+        for (int c : new int[] {0, 5, 9, 62, 63}) {
+            seen.add((long) x.leads(c));
+            for (int k : new int[] {1, 4, 9, 20}) seen.add((long) x.where(c, k));
+        }
+        return seen;
+    }
+
+    private static void ofSumsAlone() {
+        int[] units = {0, 1, 2, 22, 23};
+        BranchSums x = Check.rolled("0(1(22 23)2);0:5x1;1:0x6;2:5x3,63x4;22:0x2,9x9;23:63x5,62x1");
+        List<Long> want = ofSeveral(x, units);
+        for (int u : units) {
+            BranchSums y = Check.rolled("0(1(22 23)2);0:5x1;1:0x6;2:5x3,63x4;22:0x2,9x9;23:63x5,62x1");
+            for (int c : new int[] {0, 5, 9, 31, 62, 63}) y.add(u, c, 7 * c + 20);
+            List<Long> got = ofSeveral(y, units);
+            for (int i = 0; i < want.size(); i++) due("33, 39, 43 to 46: with more OWN of " + u + ", " + i, got.get(i), want.get(i));
+        }
+        due("39: 19 of 1, 7 of 2", x.halves(0, 0) * 100 + x.halves(0, 1), 200 + 23 - 7);
+        due("44: the lesser numbers of 22 and 1", x.shared(22, 1, 3), 11);
+        due("46: the last unit", x.where(63, 5), 23);
+        due("46: the last but one", x.where(9, 9), 22);
+    }
+
     public static void main(String[] args) {
+        ofSumsAlone();
+        versionsOfAll();
         twinsOfEach();
         versionsOfEach();
         grewByEach();

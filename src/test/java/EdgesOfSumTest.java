@@ -409,7 +409,62 @@ public final class EdgesOfSumTest {
         due("42: all draws", x.state(0), stateBehind(-77, 350));
     }
 
+    // ---- "SUMS are as they were rolled up the latest time": not OWN, not BRANCH SUM, and of any UNIT
+
+    /** A UNIT whose SUM is as told, while its OWN and its BRANCH SUM are others by now. */
+    private static BranchSums staleWith(int unit, String sum) {
+        BranchSums x = new BranchSums();
+        Check.read(x, "0(1 2(" + unit + "(3))4);0:33x8;2:33x9;3:" + sum + ";4:20x6");
+        x.roll(unit);
+        x.add(unit, 7, 3000);
+        x.add(unit, 0, 2000);
+        x.add(unit, 62, 1);
+        x.add(3, 31, 4000);
+        x.add(3, 61, 3);
+        return x;
+    }
+
+    /** What UNIT u of x tells is what the HEAD of y does. */
+    private static void sameOfBoth(String call, BranchSums x, int u, BranchSums y) {
+        int all = y.unit(0, 8);
+        for (int r : new int[] {0, all / 3, all - 1, all}) due("22: " + call, x.ranked(u, r), y.ranked(0, r));
+        for (int c : new int[] {1, 7, 32, 63, 64}) due("23: " + call, x.less(u, c), y.less(0, c));
+        for (int i : new int[] {0, 1, 2, 6}) {
+            due("24: " + call, x.leader(u, i, 0), y.leader(0, i, 0));
+            due("24: " + call + ", its number", x.leader(u, i, 1), y.leader(0, i, 1));
+        }
+        due("25: " + call, x.median(u), y.median(0));
+        for (int p : new int[] {0, 1, 33, 49, 99}) due("26: " + call, x.heavy(u, p), y.heavy(0, p));
+        due("27: " + call, x.squares(u), y.squares(0));
+        for (int c : new int[] {0, 1, 7, 31, 62, 63}) {
+            due("28: " + call, x.seats(u, 100, c), y.seats(0, 100, c));
+            due("29: " + call, x.percent(u, c), y.percent(0, c));
+            due("42: " + call, x.drawn(u, 9, c), y.drawn(0, 9, c));
+        }
+        for (int p : new int[] {1, 30, 50, 99, 100}) {
+            due("30: " + call, x.quantile(u, p), y.quantile(0, p));
+            due("31: " + call, x.few(u, p), y.few(0, p));
+        }
+        for (int i = NONE - 2; i < 3; i++) {
+            for (int w = 0; w < 3; w++) due("32: " + call + ", " + i, x.run(u, i, w), y.run(0, i, w));
+        }
+        String report = Check.report(y, 0).substring(1);
+        Check.report(x, u, u + report);
+    }
+
+    private static void ofTheSumAlone() {
+        for (String sum : SUMS) {
+            for (int u : new int[] {9, 23}) {
+                BranchSums x = staleWith(u, sum);
+                sameOfBoth("of " + u + " with " + sum, x, u, of(sum));
+                due("OWN is another one", x.of(u, 7, 0), 3000);
+                due("BRANCH SUM, too", x.unit(u, 5), 0);
+            }
+        }
+    }
+
     public static void main(String[] args) {
+        ofTheSumAlone();
         for (String sum : SUMS) {
             ranksAtTheEdges(sum);
             leaders(sum);

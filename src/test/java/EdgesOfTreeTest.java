@@ -182,6 +182,24 @@ public final class EdgesOfTreeTest {
         due("21: what 3", x.of(0, 0, 3), NONE);
     }
 
+    /** "OWN of all in its BRANCH", from each DEPTH to each above it, down to the twelfth. */
+    private static void branchSumsOfAStair() {
+        BranchSums x = stair(12);
+        for (int u = 0; u <= 12; u++) x.add(u, 5 * u, u + 1);
+        for (int u = 0; u <= 12; u++) {
+            for (int v = 0; v <= 12; v++) due("21: branch sum of " + u + ", category " + 5 * v, x.of(u, 5 * v, 2), v < u ? 0 : v + 1);
+            due("17: all in the branch sum of " + u, x.unit(u, 11), 91 - u * (u + 1) / 2);
+            due("17: not right yet", x.unit(u, 5), 0);
+        }
+        due("52: none is right yet", x.look(2), 0);
+        x.roll(0);
+        due("52: all are right", x.look(2), (1 << 13) - 1);
+        for (int u = 0; u <= 12; u++) due("17: right", x.unit(u, 5), 1);
+        x.add(12, 63, 1);
+        due("52: the twelfth depth is of each", x.look(2), 0);
+        for (int u = 0; u <= 12; u++) due("17: right no more", x.unit(u, 5), 0);
+    }
+
     // ---- 49: "of all to which it can be MOVED, and the one it is below ... of several the least"
 
     private static int apart(BranchSums x, int unit, int home) {
@@ -235,6 +253,18 @@ public final class EdgesOfTreeTest {
         x.add(10, 9, 1);
         due("49: where it is", x.home(12), 11);
         due("49: not sums, branch sums", x.look(8), 0);
+        // What is of the twelfth depth is of each branch above it: 2 is as 1, the head has four more.
+        x = stair(12);
+        x.comes(13, 0);
+        x.add(12, 63, 7);
+        x.add(0, 63, 4);
+        x.add(13, 63, 6);
+        due("49: of the twelfth depth, too", x.home(13), 1);
+        x.add(12, 63, -2);
+        x.add(0, 63, 2);
+        due("49: the head, without what is of its branch", x.home(13), 1);
+        x.add(0, 63, -5);
+        due("49: the head with six", x.home(13), 0);
     }
 
     // ---- 52: what 0 .. 12; "NONE for another what"
@@ -291,6 +321,7 @@ public final class EdgesOfTreeTest {
         longestChain();
         categoriesOfChains();
         ofEach();
+        branchSumsOfAStair();
         homes();
         homeWhereItIs();
         eachLook();

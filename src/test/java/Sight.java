@@ -87,7 +87,7 @@ final class Sight {
         for (int u = 0; u < 24; u++) seen.add((long) x.versions(u));
         for (int u : UNITS) {
             for (int v = 0; v < 8; v++) {
-                for (int c : new int[] {5, 9, 32}) seen.add((long) x.was(u, v, c));
+                for (int c : new int[] {0, 5, 32, 63}) seen.add((long) x.was(u, v, c));
             }
             seen.add((long) x.grew(u, 1, 4));
         }
