@@ -1,3 +1,5 @@
+import java.util.Arrays;
+
 /** "Terms", parts 1, 2 and 4: each bound that they name, at it, right below it and right above it. */
 public final class EdgesOfTermsTest {
     private static final int NONE = BranchSums.NONE;
@@ -263,6 +265,51 @@ public final class EdgesOfTermsTest {
         split("28x3,31x4", 31, 31, 4, 5);
     }
 
+    // ---- "(h) RECODED: ... it is SPLIT off (COST) and MERGED in as the other one (COST)"
+
+    /** How many SPANS a CATEGORY has with some others: those from its own width on up to the whole. */
+    private static int spansWith(int category, int... others) {
+        int spans = 0;
+        for (int w = 1; w <= 64; w *= 2) {
+            boolean with = false;
+            for (int c : others) with = with || c / w == category / w;
+            if (with) spans++;
+        }
+        return spans;
+    }
+
+    private static void recode(int category, int other, int... others) {
+        BranchSums x = new BranchSums();
+        x.comes(23, 0);
+        x.add(23, category, 4);
+        for (int c : others) x.add(23, c, 9);
+        String call = "recoded " + category + " as " + other + " beside " + Arrays.toString(others);
+        due(call, x.recode(category, other), 4);
+        due(call + ", cost of the split", x.count(1), spansWith(category, others));
+        due(call + ", cost of the merge", x.count(0), spansWith(other, others));
+        due(call + ", one of each", x.count(2) * 10 + x.count(3), 11);
+    }
+
+    private static void costOfRecoding() {
+        int[] codes = {0, 1, 10, 12, 31, 32, 40, 63};
+        int[][] others = {{}, {11}, {13}, {10, 13}, {0}, {63}, {0, 63}, {9, 11, 14, 33}, {2, 3, 30, 34, 61}, {12, 31}};
+        for (int c : codes) {
+            for (int d : codes) {
+                for (int[] rest : others) {
+                    boolean among = false;
+                    for (int o : rest) among = among || o == c;
+                    if (c != d && !among) recode(c, d, rest);
+                }
+            }
+        }
+        BranchSums x = new BranchSums();
+        Check.read(x, "0(1 2 3);0:5x1,6x1;1:5x2;2:6x3;3:5x4,7x1");
+        due("recoded in three units", x.recode(5, 7), 7);
+        due("cost of three splits", x.count(1), 5 + 0 + 5);
+        due("cost of three merges", x.count(0), 6 + 0 + 7);
+        due("three of each", x.count(2) * 10 + x.count(3), 33);
+    }
+
     // ---- "Each UNIT has a SUM (... 0 as it comes), STALE or not (not as it comes)"
 
     private static void asItComes() {
@@ -465,6 +512,7 @@ public final class EdgesOfTermsTest {
         nodesOfSpans();
         costOfMerging();
         costOfSplitting();
+        costOfRecoding();
         asItComes();
         rolledUp();
         versionsAre8();

@@ -8,6 +8,8 @@ public final class RandomRunsTest {
     private static Model m;
     private static String call;
     private static int calls;
+    /** In some runs there are stairs down to the twelfth depth, and the deepest UNIT is asked for often. */
+    private static boolean tall;
 
     /** A text fed, an act and all that is asked behind it. */
     private static final int MOST_AT_ONCE = 72;
@@ -30,7 +32,16 @@ public final class RandomRunsTest {
         return often(2) ? WILD[pick(WILD.length)] : n;
     }
 
+    private static int deepest() {
+        int deepest = 0;
+        for (int u : m.units.keySet()) {
+            if (m.depth(u) > m.depth(deepest)) deepest = u;
+        }
+        return deepest;
+    }
+
     private static int unit() {
+        if (tall && often(25)) return deepest();
         if (often(85)) {
             List<Integer> there = new ArrayList<>(m.units.keySet());
             return wildOr(there.get(pick(there.size())));
@@ -70,7 +81,8 @@ public final class RandomRunsTest {
         List<Integer> there = new ArrayList<>();
         there.add(0);
         s.append("0");
-        randomBelow(s, free, there, 0, pick(24), pick(100));
+        if (tall) randomBelow(s, free, there, 0, 11 + pick(4), 98);
+        else randomBelow(s, free, there, 0, pick(24), pick(100));
         for (int k = pick(8); k > 0; k--) {
             s.append(blanks()).append(";").append(blanks()).append(there.get(pick(there.size()))).append(":");
             for (int i = pick(3); i >= 0; i--) {
@@ -133,6 +145,10 @@ public final class RandomRunsTest {
             call = "end" + args(n);
             due(bit(x.end(n)), bit(m.end(n)), run, at);
         }
+        readText(run, at);
+    }
+
+    private static void readText(int run, int at) {
         call = "text()";
         due(x.text(), m.text(), run, at);
         due(x.fault(0), m.fault(0), run, at);
@@ -150,6 +166,7 @@ public final class RandomRunsTest {
             due(x.add(u, c, n), m.add(u, c, n), run, at);
         } else if (kind < 48) {
             int w = often(80) ? pick(24) : u;
+            if (tall && often(60)) v = deepest();
             call = "comes" + args(w, v);
             due(bit(x.comes(w, v)), bit(m.comes(w, v)), run, at);
         } else if (kind < 53) {
@@ -277,11 +294,18 @@ public final class RandomRunsTest {
             x = new BranchSums();
             m = new Model();
             int calm = pick(3);
+            tall = pick(4) == 0;
             calls = 0;
+            if (tall) {
+                feedText(run, 0, randomText());
+                readText(run, 0);
+            }
             for (int at = 1; calls <= 512 - MOST_AT_ONCE; at++) {
                 int kind = pick(100);
                 // Some runs have no texts or images, so that what they build lasts.
                 if (calm > 0 && (kind == 90 || kind == 91 || kind == 99)) kind = pick(86);
+                // In tall ones there is less that takes the deepest away.
+                if (tall && kind >= 48 && kind < 64 && often(70)) kind = pick(48);
                 act(run, at, kind);
                 if (often(20)) tell(run, at);
                 if (often(15)) askTree(run, at);
