@@ -101,6 +101,29 @@ public final class EdgesOfTellingTest {
         }
     }
 
+    private static void limitOf(BranchSums x, int i, int n) {
+        x.limit(i % 2, i, 63 - 2 * i, n);
+    }
+
+    /** What stands behind the one that is none any more keeps its UNIT, both ends of its span and its n. */
+    private static void wholeLimitsAreKept() {
+        String text = "0(1);1:0x1,1x2,2x3,3x1,4x2,5x3,6x4,7x5,8x6,9x7,10x8,11x9,12x1;0:41x1,43x2,45x3,47x4,49x5,51x6,53x7,55x8,57x9,59x10,61x11,63x12";
+        for (int gone = 0; gone < 12; gone++) {
+            BranchSums x = Check.rolled(text);
+            for (int i = 0; i < 12; i++) limitOf(x, i, i % 3);
+            limitOf(x, gone, NONE);
+            int at = 0;
+            for (int i = 0; i < 12; i++) {
+                if (i == gone) continue;
+                int in = x.less(i % 2, 64 - 2 * i) - x.less(i % 2, i);
+                due("the unit of " + i + " without " + gone, x.broken(at, 0), i % 2);
+                due("by how much " + i + " is broken", x.broken(at, 1), in - i % 3);
+                at++;
+            }
+            due("none behind them", x.broken(at, 1), NONE);
+        }
+    }
+
     // ---- 10: "BROKEN: the UNIT is there, its SUM has more in that span"
 
     private static void justMoreThanThat() {
@@ -249,6 +272,7 @@ public final class EdgesOfTellingTest {
         twelveLimits();
         theLaterN();
         oneOfSeveral();
+        wholeLimitsAreKept();
         justMoreThanThat();
         theUnitIsThere();
         theIthOfThem();

@@ -127,6 +127,20 @@ public final class EdgesOfTermsTest {
         }
     }
 
+    /** How deep others are, beside the branch that is moved, tells nothing. */
+    private static void depthBesideTheBranch() {
+        for (int top = 13; top <= 23; top++) {
+            BranchSums x = stair(12);
+            x.comes(top, 0);
+            for (int u = 13; u <= 23; u++) {
+                if (u != top) x.comes(u, 11);
+            }
+            due(top + " below the eleventh", x.move(top, 11), 1);
+            due(top + " below the twelfth", x.move(top, 12), NONE);
+            due("the depth of " + top, x.unit(top, 1), 12);
+        }
+    }
+
     private static void depthByTexts() {
         StringBuilder text = new StringBuilder("0");
         for (int u = 1; u <= 12; u++) text.append("(").append(u);
@@ -505,6 +519,7 @@ public final class EdgesOfTermsTest {
         depthByComing();
         depthByMoving();
         depthOfTheDeepest();
+        depthBesideTheBranch();
         depthByTexts();
         aBranchIsWithItself();
         categoriesFrom0To63();
