@@ -103,21 +103,13 @@ public final class ThoughtTest {
         x -> x.limit(3, 0, 63, 1), x -> x.limit(0, 0, 63, NONE)
     };
 
-    private static List<Long> acted(Ahead ahead, Sight.Call act) {
+    private static List<Long> acted(Ahead ahead, Sight.Call act, int u) {
         List<Long> seen = new ArrayList<>();
         BranchSums x = scene();
         ahead.on(x);
         add(seen, act.on(x));
-        for (int u : UNITS) tree(x, u, seen);
-        return seen;
-    }
-
-    private static List<Long> actedThenSeveral(Ahead ahead, Sight.Call act) {
-        List<Long> seen = new ArrayList<>();
-        BranchSums x = scene();
-        ahead.on(x);
-        add(seen, act.on(x));
-        for (int u : OTHERS) several(x, u, seen);
+        tree(x, u, seen);
+        several(x, u, seen);
         return seen;
     }
 
@@ -129,9 +121,7 @@ public final class ThoughtTest {
             same(what + ", in thought of " + u, inThought(ahead, u), inThought(nothing, u));
         }
         for (int i = 0; i < ACTS.length; i++) {
-            Sight.Call act = ACTS[i];
-            same(what + ", act " + i, acted(ahead, act), acted(nothing, act));
-            same(what + ", behind act " + i, actedThenSeveral(ahead, act), actedThenSeveral(nothing, act));
+            for (int u : UNITS) same(what + ", act " + i + ", asked of " + u, acted(ahead, ACTS[i], u), acted(nothing, ACTS[i], u));
         }
     }
 
