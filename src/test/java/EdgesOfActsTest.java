@@ -355,6 +355,23 @@ public final class EdgesOfActsTest {
         due("48: what 2: none", x.would(1, 2, 2), 0);
     }
 
+    /** "how many UNITS have another first LEADER", whichever numbers these have, others being not there. */
+    private static void wouldWithOtherLeaders() {
+        int[][] units = {{1, 2, 3}, {3, 2, 1}, {5, 6, 7}, {21, 22, 23}, {23, 9, 16}, {2, 23, 1}};
+        for (int[] u : units) {
+            // The last one's 6 comes to lead where there was 5 alone; the one that it was below has nothing then.
+            BranchSums x = Check.rolled("0(" + u[0] + " " + u[1] + "(" + u[2] + "));" + u[2] + ":6x9;0:5x10;" + u[0] + ":5x1");
+            due("48: the new one above it and the one that lacks it", x.would(u[2], u[0], 2), 2);
+            due("48: the leader of the new one above it", x.would(u[2], u[0], 1), 6);
+            x.add(0, 6, 2);
+            due("48: not the head by a tie", x.would(u[2], u[0], 2), 2);
+            x.add(0, 6, 1);
+            due("48: the head, too", x.would(u[2], u[0], 2), 3);
+            due("48: the leader of the head", x.would(u[2], 0, 1), 6);
+            due("48: the head and the one that lacks it", x.would(u[2], 0, 2), 2);
+        }
+    }
+
     private static void inThought() {
         Sight.stays("47, 48, 49: nothing stays", Sight.SCENE, 0, UNITS, (x, v) -> {
             x.cost(v);
@@ -423,7 +440,7 @@ public final class EdgesOfActsTest {
             x.roll(0);
         }
         for (int i = 0; i < 12; i++) x.limit(i, i + 1, 63, NONE);
-        for (int i = 0; i < 12; i++) x.limit(23, 5 + i, 62 - i, 99);
+        for (int i = 0; i < 12; i++) x.limit(23, 0, 62 - i, 99);
         x.state(9);
         x.undo();
         x.image(false);
@@ -579,6 +596,7 @@ public final class EdgesOfActsTest {
         wouldOfEach(Sight.SCENE);
         wouldOfEach(() -> Check.rolled("0(1(3(6))2(4)23);0:9x2;1:5x1;3:5x9,7x3;6:7x4;2:5x2;4:8x3;23:8x8"));
         wouldWithoutLeader();
+        wouldWithOtherLeaders();
         inThought();
         asked();
         eachCount();

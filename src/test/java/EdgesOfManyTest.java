@@ -75,6 +75,36 @@ public final class EdgesOfManyTest {
         }
     }
 
+    /** "UNDONE: ... all is as it was", "none by (g)", THE IMAGE: so it is with the VERSIONS of each UNIT. */
+    private static void versionsThatGo() {
+        for (int u = 0; u < 24; u++) {
+            BranchSums x = new BranchSums();
+            if (u > 0) x.comes(u, 0);
+            x.add(u, 63, 1);
+            x.roll(u);
+            due("36: one of " + u, x.versions(u), 1);
+            x.undo();
+            due("36: undone", x.versions(u), 0);
+            due("37: none of them", x.was(u, 0, 63), NONE);
+            x.roll(u);
+            x.image(true);
+            for (int i = 2; i <= 9; i++) {
+                x.add(u, 63, 1);
+                x.roll(u);
+            }
+            due("37: the latest", x.was(u, 0, 63) * 10 + x.was(u, 7, 63), 92);
+            x.undo();
+            due("37: that ahead of it", x.was(u, 0, 63) * 10 + x.was(u, 7, 63), 81);
+            Check.read(x, u == 0 ? "0" : "0(" + u + ")");
+            due("36: none by a text", x.versions(u), 0);
+            x.undo();
+            due("36: eight again", x.versions(u), 8);
+            x.image(false);
+            due("36: one as in the image", x.versions(u), 1);
+            due("37: as in the image", x.was(u, 0, 63) * 10 + x.was(u, 1, 63), 10 + NONE);
+        }
+    }
+
     private static int triangle(int n) {
         return n * (n + 1) / 2;
     }
@@ -369,6 +399,7 @@ public final class EdgesOfManyTest {
     public static void main(String[] args) {
         ofSumsAlone();
         versionsOfAll();
+        versionsThatGo();
         twinsOfEach();
         versionsOfEach();
         grewByEach();

@@ -102,12 +102,15 @@ public final class EdgesOfTellingTest {
     }
 
     private static void limitOf(BranchSums x, int i, int n) {
-        x.limit(i % 2, i, 63 - 2 * i, n);
+        x.limit(i % 2, 4 * i, 63 - i, n);
     }
 
     /** What stands behind the one that is none any more keeps its UNIT, both ends of its span and its n. */
     private static void wholeLimitsAreKept() {
-        String text = "0(1);1:0x1,1x2,2x3,3x1,4x2,5x3,6x4,7x5,8x6,9x7,10x8,11x9,12x1;0:41x1,43x2,45x3,47x4,49x5,51x6,53x7,55x8,57x9,59x10,61x11,63x12";
+        StringBuilder entries = new StringBuilder();
+        for (int i = 0; i < 12; i++) entries.append(i > 0 ? "," : "").append(4 * i).append("x").append(i % 5 + 1);
+        for (int c = 52; c < 64; c++) entries.append(",").append(c).append("x").append(c % 7 + 1);
+        String text = "0(1);0:" + entries + ";1:" + entries;
         for (int gone = 0; gone < 12; gone++) {
             BranchSums x = Check.rolled(text);
             for (int i = 0; i < 12; i++) limitOf(x, i, i % 3);
@@ -115,7 +118,7 @@ public final class EdgesOfTellingTest {
             int at = 0;
             for (int i = 0; i < 12; i++) {
                 if (i == gone) continue;
-                int in = x.less(i % 2, 64 - 2 * i) - x.less(i % 2, i);
+                int in = x.less(i % 2, 64 - i) - x.less(i % 2, 4 * i);
                 due("the unit of " + i + " without " + gone, x.broken(at, 0), i % 2);
                 due("by how much " + i + " is broken", x.broken(at, 1), in - i % 3);
                 at++;

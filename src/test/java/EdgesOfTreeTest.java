@@ -119,6 +119,14 @@ public final class EdgesOfTreeTest {
             due("19: k -1", x.above(u, -1), NONE);
         }
         due("19: none such", x.above(13, 0), NONE);
+        // The same stair of the last ones: how deep they are tells, not their numbers.
+        x = new BranchSums();
+        for (int u = 23; u >= 12; u--) x.comes(u, u == 23 ? 0 : u + 1);
+        for (int u = 12; u <= 23; u++) {
+            for (int k = 0; k < 24 - u; k++) due("19: above(" + u + ", " + k + ")", x.above(u, k), u + k);
+            due("19: the head above " + u, x.above(u, 24 - u), 0);
+            due("19: none above it", x.above(u, 25 - u), NONE);
+        }
     }
 
     // ---- 20: "The deepest UNIT in whose BRANCH both are"; 40, 41: a CHAIN, both with
